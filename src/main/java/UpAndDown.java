@@ -303,15 +303,16 @@ public final class UpAndDown {
         if (!isCrowd(crowd) || !isBehind(n) || !isPlace(place)) {
             return NO_SUCH;
         }
-        return behind(crowd, n).sureFigure(figures, place);
+        return behind(known(), crowd, n).sureFigure(figures, place);
     }
 
     public int fewest(int crowd, int place) {
         if (!isCrowd(crowd) || !isPlace(place)) {
             return NO_SUCH;
         }
+        Paths ways = known();
         for (int n = 0; n <= MOST_BEHIND; n++) {
-            Crowd now = behind(crowd, n);
+            Crowd now = behind(ways, crowd, n);
             if (now.sureFigure(figures, place) != NONE) {
                 return n;
             }
@@ -326,21 +327,21 @@ public final class UpAndDown {
         if (!isCrowd(crowd) || !isBehind(n)) {
             return NO_SUCH;
         }
-        return behind(crowd, n).count;
+        return behind(known(), crowd, n).count;
     }
 
     public int rest(int crowd, int n) {
         if (!isCrowd(crowd) || !isBehind(n)) {
             return NO_SUCH;
         }
-        return behind(crowd, n).greatestOfOneRest();
+        return behind(known(), crowd, n).greatestOfOneRest();
     }
 
     public int out(int crowd, int n, int told) {
         if (!isCrowd(crowd) || !isBehind(n) || told < 0 || told >= figures.power(table.length - 1)) {
             return NO_SUCH;
         }
-        return behind(crowd, n).leftOut(figures, told);
+        return behind(known(), crowd, n).leftOut(figures, told);
     }
 
     public int slip(int x, int i, int slip) {
@@ -563,11 +564,11 @@ public final class UpAndDown {
         return paths;
     }
 
-    private Crowd behind(int crowd, int n) {
+    private Crowd behind(Paths ways, int crowd, int n) {
         if (crowds.crowd != crowd || crowds.goes > n) {
             crowds.begin(figures, table, crowd);
         }
-        crowds.goOn(known(), n);
+        crowds.goOn(ways, n);
         return crowds;
     }
 
@@ -662,7 +663,7 @@ public final class UpAndDown {
 
         /** NONE at the end, so that no byte is like it. */
         int byteAt(int i) {
-            return i >= 0 && i < count ? Cells.at(bytes, i) : NONE;
+            return i >= 0 && i < count && i < bytes.length ? bytes[i] : NONE;
         }
     }
 
@@ -829,11 +830,11 @@ public final class UpAndDown {
         }
 
         private boolean readBase(Table into) {
-            if (!readText("table") || !readText("base") || !readNumber(2, 16)) {
+            if (!readText("table") || !readText("base") || !readBetween(2, 16)) {
                 return false;
             }
             into.base = readNumber;
-            if (!readText("long") || !readNumber(1, longest(into.base))) {
+            if (!readText("long") || !readBetween(1, longest(into.base))) {
                 return false;
             }
             into.length = readNumber;
@@ -877,7 +878,7 @@ public final class UpAndDown {
                 return wrong(3);
             }
             advance();
-            if (!readNumber(0, into.size - 1)) {
+            if (!readBetween(0, into.size - 1)) {
                 return false;
             }
             into.tell(readNumber);
@@ -909,7 +910,7 @@ public final class UpAndDown {
             advance();
             readSort = sort;
             readNumber = 0;
-            return sort < PLAIN_SORTS || readNumber(0, into.mostOf(sort));
+            return sort < PLAIN_SORTS || readBetween(0, into.mostOf(sort));
         }
 
         private boolean readText(String text) {
@@ -928,7 +929,7 @@ public final class UpAndDown {
             return true;
         }
 
-        private boolean readNumber(int least, int most) {
+        private boolean readBetween(int least, int most) {
             if (token != DIGITS) {
                 return wrong(1);
             }
@@ -1169,13 +1170,21 @@ public final class UpAndDown {
             }
         }
 
+        /** From the last figure on, so that those left out move the others together. */
         private int leaving(int x, int number) {
+            if (base < 2) {
+                return 0;
+            }
             int made = 0;
+            int place = 1;
+            int rest = x;
             for (int i = 0; i < length; i++) {
-                int figure = figureOf(x, i);
+                int figure = rest % base;
                 if (figure != number) {
-                    made = made * base + figure;
+                    made += figure * place;
+                    place *= base;
                 }
+                rest /= base;
             }
             return made;
         }

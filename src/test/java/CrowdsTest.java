@@ -32,6 +32,8 @@ public final class CrowdsTest {
         DUE.is("kind -1", x.kind(7, -1), -2);
         DUE.is("kind of none", x.kind(10000, 0), -2);
         DUE.is("kind of none", x.kind(-1, 1), -2);
+        DUE.is("of noughts", x.kind(0, 1), 1);
+        DUE.is("of noughts", Due.of("table base 2 long 3;").kind(0, 1), 1);
         DUE.is("kinds", Due.of("table base 2 long 3;").kinds(), 4);
         DUE.is("kinds", Due.of("table base 16 long 3;").kinds(), 816);
     }

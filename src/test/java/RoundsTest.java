@@ -18,6 +18,7 @@ public final class RoundsTest {
         back();
         meet();
         join();
+        nought();
         noTable();
         DUE.end("RoundsTest");
     }
@@ -226,6 +227,23 @@ public final class RoundsTest {
         joins(y, 3524, 3087, 3087, 1, 0);
         joins(y, 3087, 3524, 3087, 0, 1);
         joins(y, 3524, 6174, 6174, 3, 0);
+    }
+
+    /** 0 is a garden itself, the only one ahead of all others. */
+    private static void nought() {
+        UpAndDown x = Due.of("table base 10 long 1;doing times 2 plus 1;");
+        DUE.is("gardens", x.gardens(), 5);
+        DUE.is("garden 0", x.garden(0), 0);
+        DUE.is("garden 1", x.garden(1), 2);
+        DUE.is("0 goes", x.ends(0, 0), 1);
+        DUE.is("0 comes", x.ends(0, 3), 1);
+        DUE.is("rounds", x.rounds(0), 2);
+        DUE.is("least that takes most", x.most(1), 0);
+        DUE.is("take 0", x.take(0), 5);
+        UpAndDown y = Due.of("table base 2 long 1;doing times 0 plus 1;");
+        DUE.is("come to 1", y.round(0, 2), 2);
+        DUE.is("most goes", y.round(0, 3), 1);
+        DUE.is("most goes", y.most(0), 1);
     }
 
     private static void noTable() {

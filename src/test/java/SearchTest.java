@@ -29,6 +29,13 @@ public final class SearchTest {
         DUE.is("the doing stays", x.next(3524), 3087);
         DUE.is("turn", x.turn(3, 6, 0), 1);
         DUE.is("none such now", x.slip(3524, 3, 0), -2);
+        UpAndDown none = Due.of(HEAD + "doing down;");
+        DUE.is("no slips", none.slip(3524, 0, 0), -2);
+        DUE.is("no slips", none.fits(3524, 5432), 0);
+        UpAndDown one = Due.of(HEAD + "doing up;slip turn for down;");
+        DUE.is("no word behind the last", one.slip(3524, 1, 0), -2);
+        DUE.is("no word behind the last", one.fits(3524, 2345), 0);
+        DUE.is("no word behind the last", one.which(3524, 2345), -1);
     }
 
     private static void slipNumbers() {
@@ -86,6 +93,14 @@ public final class SearchTest {
         DUE.is("add twice", x.found(1, 3, 1), 6);
         DUE.is("three do not", x.find(0, 1), -1);
         DUE.is("three do not", x.found(0, 1, 0), -1);
+        UpAndDown y = Due.of("table base 10 long 2;");
+        DUE.is("add square square", y.find(1, 16), 3);
+        DUE.is("add square square", y.found(1, 16, 0), 6);
+        DUE.is("add square square", y.found(1, 16, 1), 7);
+        DUE.is("add square square", y.found(1, 16, 2), 7);
+        DUE.is("add square square", y.found(1, 16, 3), -1);
+        DUE.is("add square square add are four", y.find(1, 17), -1);
+        DUE.is("add square square add are four", y.found(1, 17, 0), -1);
         DUE.is("of none", x.find(10000, 0), -2);
         DUE.is("of none", x.find(0, -1), -2);
         DUE.is("of none", x.found(10000, 0, 0), -2);
@@ -111,6 +126,18 @@ public final class SearchTest {
         Due.table(y, "table base 10 long 1;");
         DUE.is("another table", y.best(1, 0), 6);
         DUE.is("another table", y.best(1, 2), 10);
+        DUE.is("half add", y.best(2, 0), 1006);
+        DUE.is("half less", y.best(2, 2), 1005);
+        Due.table(y, "table base 10 long 2;");
+        DUE.is("another long: keep", y.best(1, 1), 3);
+        DUE.is("another long: down back", y.best(2, 1), 4);
+        DUE.is("another long: cube", y.best(1, 2), 8);
+        DUE.is("another long: sum add", y.best(2, 2), 906);
+        Due.table(y, "table base 7 long 2;");
+        DUE.is("another base: square", y.best(1, 2), 7);
+        DUE.is("another base: add turn", y.best(2, 0), 602);
+        Due.table(y, "table base 2 long 2;");
+        DUE.is("another base: turn", y.best(1, 0), 2);
     }
 
     private static void evening() {
@@ -132,6 +159,12 @@ public final class SearchTest {
         DUE.is("too many drawn", x.evening(0, 101, 0), -2);
         DUE.is("many drawn", x.evening(0, 100, 0), 2);
         DUE.is("many drawn", x.evening(0, 100, 1), 1);
+        DUE.is("one behind many", x.evening(0, 1, 0), 1);
+        DUE.is("one behind many", x.evening(0, 1, 1), 0);
+        UpAndDown y = Due.of("table base 10 long 1;doing times 0 plus 1;");
+        DUE.is("all come to 1", y.evening(0, 100, 2), 100);
+        DUE.is("one behind many", y.evening(0, 1, 2), 1);
+        DUE.is("of the first alone", y.evening(0, 1, 1), 1);
         DUE.is("another what", x.evening(0, 1, 3), -2);
         DUE.is("another what", x.evening(0, 1, -1), -2);
     }

@@ -137,6 +137,10 @@ public final class SlotsTest {
         DUE.is("in place of another", x.row(0, 0, 3), 0);
         DUE.is("all 0", x.judge(0), 3);
         DUE.is("slots", x.count(7), 2);
+        UpAndDown y = Due.of(KAPREKAR);
+        fill(y, 0, 1, 3524, 3087, 8352, 6174);
+        DUE.is("in place of another", y.row(0, 1, 4), 0);
+        DUE.is("all 0, which rests", y.judge(0), 4);
     }
 
     private static void writes() {

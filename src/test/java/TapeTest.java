@@ -85,6 +85,7 @@ public final class TapeTest {
         DUE.is("blanks alone", Due.table(x, " \n \n"), 0);
         DUE.is("no table then", x.size(), -2);
         DUE.is("base of none", x.count(0), 0);
+        DUE.is("long of none", x.count(1), 0);
         DUE.is("next of none", x.next(0), -2);
     }
 
@@ -132,6 +133,10 @@ public final class TapeTest {
         fault("tablebase 10 long 4;", 1, 0);
         fault("table base 10 long 4;doing downup;", 1, 27);
         fault("table base 10 long 4;doing dow;", 1, 27);
+        fault("table base 10 long 4;doing xown;", 1, 27);
+        fault("table base 10 long 4;doing downz;", 1, 27);
+        fault("table base 10 long 4;doing downa;", 1, 27);
+        fault("xable base 10 long 4;", 1, 0);
         fault("table base 10 long 4;doing downs;", 1, 27);
     }
 

@@ -12,6 +12,7 @@ public final class WordsTest {
         otherBases();
         through();
         after();
+        oneBehindAnother();
         noTable();
         DUE.end("WordsTest");
     }
@@ -190,6 +191,26 @@ public final class WordsTest {
         DUE.is("on one long round", z.after(7, 1000000000), 7);
         DUE.is("on one long round", z.after(7, 999999999), 6);
         DUE.is("on one long round", z.after(7, 9999), 6);
+    }
+
+    /** Nothing of a table is left for the next one, be base, long or neither another. */
+    private static void oneBehindAnother() {
+        UpAndDown x = Due.of(HEAD + "doing up;");
+        DUE.is("base 10 long 4", x.next(3201), 123);
+        Due.table(x, "table base 10 long 2;doing turn;");
+        DUE.is("base 10 long 2", x.next(32), 23);
+        DUE.is("base 10 long 2", x.size(), 100);
+        Due.table(x, "table base 3 long 2;doing turn;");
+        DUE.is("base 3 long 2", x.next(5), 7);
+        Due.table(x, "table base 3 long 2;doing first plus 1;");
+        DUE.is("base 3 long 2", x.next(5), 8);
+        Due.table(x, "table base 2 long 3;");
+        DUE.is("kinds", x.kinds(), 4);
+        DUE.is("kind", x.kind(0, 1), 1);
+        DUE.is("rests", x.rounds(1), 8);
+        DUE.is("take", x.take(0), 8);
+        DUE.is("from", x.from(0, -1), 1);
+        DUE.is("most", x.most(2), 8);
     }
 
     private static void noTable() {
